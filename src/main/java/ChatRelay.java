@@ -90,11 +90,7 @@ public final class ChatRelay {
     public int deliverAll() {
         int delivered = 0;
         for (int round = 0; round < MOST_ROUNDS && wires.waiting > 0; round++) {
-            for (int pair = 0; pair < SERVERS * SERVERS; pair++) {
-                if (deliverFirst(pair / SERVERS, pair % SERVERS)) {
-                    delivered++;
-                }
-            }
+            delivered += deliverRound();
         }
         now++;
         return delivered;
@@ -320,6 +316,18 @@ public final class ChatRelay {
                 view.forget(user);
             }
         }
+    }
+
+    private int deliverRound() {
+        int delivered = 0;
+        for (int server = 0; server < SERVERS; server++) {
+            for (int other = 0; other < SERVERS; other++) {
+                if (deliverFirst(server, other)) {
+                    delivered++;
+                }
+            }
+        }
+        return delivered;
     }
 
     /** Answers whether there was a line. */

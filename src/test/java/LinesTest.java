@@ -48,6 +48,7 @@ public final class LinesTest {
         Check.due("USER of the older one makes the younger one quit", 1, x.known(0));
         Check.due("its QUIT goes to that link too", 2, x.lines());
         Check.due("the younger one is gone", ChatRelay.IS_GONE, x.say(1, 0));
+        Check.due("the QUIT that goes back comes behind it", 1, x.deliver(1, 0));
         x.deliverAll();
         Check.due("all is the same", true, x.areSame(0, 3));
     }

@@ -52,14 +52,8 @@ public final class LinksTest {
         Check.due("2: tree of the other", 3, x.tree(1));
         Check.due("2: the clock grows", 8, x.clock());
         Check.due("2: a view stays until lines come", 3, x.known(0));
-        Check.due("2: link without news the other way", 2 + 2, new Object() {
-            int count() {
-                x.deliverAll();
-                x.quit(2);
-                x.deliverAll();
-                return x.link(2, 0);
-            }
-        }.count());
+        Check.due("2: lines that wait elsewhere do not count", 4, x.link(2, 0));
+        Check.due("2: they wait on", 10, x.lines());
     }
 
     private static void linkIsRefused() {

@@ -1,3 +1,5 @@
+import com.sun.management.ThreadMXBean;
+import java.lang.management.ManagementFactory;
 import java.util.Random;
 
 /**
@@ -7,6 +9,7 @@ import java.util.Random;
 public final class LongRunTest {
     public static void main(String[] args) {
         fullQueues();
+        linesAreUsedAgain();
         beyondTheLastCall();
         wildArguments();
         Check.end();
@@ -27,6 +30,30 @@ public final class LongRunTest {
         Check.due("all come", 5 * 505, x.deliverAll());
         Check.due("all is quiet", 0, x.lines());
         Check.due("all is the same", true, x.areSame(0, 5));
+    }
+
+    /** Calls, once lines have been made, make nothing more: 10,000 lines cost less than 40 would. */
+    private static void linesAreUsedAgain() {
+        ChatRelay x = new ChatRelay();
+        for (int s = 1; s < 6; s++) {
+            x.link(s - 1, s);
+        }
+        x.signOn(0, 'a');
+        x.join(0, 0);
+        x.setModes(0, 0, 1, 1);
+        x.deliverAll();
+        ThreadMXBean memory = (ThreadMXBean) ManagementFactory.getThreadMXBean();
+        int delivered = 0;
+        memory.getCurrentThreadAllocatedBytes();
+        long before = memory.getCurrentThreadAllocatedBytes();
+        for (int n = 0; n < 1000; n++) {
+            x.setModes(0, 0, n & 15, n);
+            x.setModes(0, 0, n & 15, n);
+            delivered += n % 2 == 0 ? x.deliverAll() : x.split(0, 1) + x.link(0, 1) + x.deliverAll();
+        }
+        long bytes = memory.getCurrentThreadAllocatedBytes() - before;
+        Check.due("delivered and lost", 500 * 10 + 500 * (2 + 2 + 10), delivered);
+        Check.due("bytes made: " + bytes, true, bytes < 40 * 48);
     }
 
     /** What it answers then is free, but it still ends. */
