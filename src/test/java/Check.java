@@ -49,6 +49,56 @@ final class Check {
         }
     }
 
+    /** Due is that channel in the view of a server, in all its parts. */
+    static void dueChannel(String what, ChatRelay relay, int server, int channel,
+            int age, int modes, int bans, int members) {
+        due(what + ": age", age, relay.age(server, channel));
+        due(what + ": modes", modes, relay.modes(server, channel));
+        due(what + ": bans", bans, relay.bans(server, channel));
+        due(what + ": members", members, relay.members(server, channel));
+    }
+
+    static void dueNoChannel(String what, ChatRelay relay, int server, int channel) {
+        dueChannel(what, relay, server, channel, ChatRelay.NONE, ChatRelay.NONE, ChatRelay.NONE, 0);
+    }
+
+    static void dueNoLine(String what, ChatRelay relay, int from, int to) {
+        dueRefusal(relay, what + ": no line from " + from + " to " + to, STATE, () -> relay.deliver(from, to));
+    }
+
+    /**
+     * Due is that both tell the same, now and behind each line that still waits: what stands in
+     * the queues cannot be asked, so that it is delivered, one by one, in both.
+     */
+    static void dueTwins(String what, ChatRelay one, ChatRelay two) {
+        dueSameTold(what, one, two);
+        for (int pass = 0; pass < 1000 && one.lines() + two.lines() > 0; pass++) {
+            for (int pair = 0; pair < 36; pair++) {
+                int from = pair / 6;
+                int to = pair % 6;
+                due(what + ": a line from " + from + " to " + to, deliverIfAny(one, from, to),
+                        deliverIfAny(two, from, to));
+                dueSameTold(what + ", delivered from " + from + " to " + to, one, two);
+            }
+        }
+        due(what + ": lines at the end", 0, one.lines() + two.lines());
+    }
+
+    private static int deliverIfAny(ChatRelay relay, int from, int to) {
+        try {
+            return relay.deliver(from, to);
+        } catch (IllegalStateException none) {
+            return -1;
+        }
+    }
+
+    private static void dueSameTold(String what, ChatRelay one, ChatRelay two) {
+        checked++;
+        if (!told(one).equals(told(two))) {
+            report(what + ": " + told(one) + ", due is " + told(two));
+        }
+    }
+
     /** All that can be asked of a relay without changing it. */
     static String told(ChatRelay relay) {
         StringBuilder text = new StringBuilder();
